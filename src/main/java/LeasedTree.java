@@ -589,7 +589,7 @@ public final class LeasedTree {
         final int[] values = new int[MOST_NODES * MOST_FIELDS];
 
         void reset() {
-            alive = 0;
+            alive = bit(0);
             Arrays.fill(values, 0);
         }
 
@@ -844,7 +844,6 @@ public final class LeasedTree {
             clientCount = 0;
             nodes.reset();
             trunk.reset();
-            trunk.alive = bit(0);
             for (int c = 0; c < MOST_CLIENTS; c++) {
                 leases[c].held = false;
             }
@@ -1230,7 +1229,6 @@ public final class LeasedTree {
             number = NONE;
             if (start >= length) {
                 token = TOKEN_END;
-                end = length;
                 return;
             }
             int first = bytes[start];

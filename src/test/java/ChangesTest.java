@@ -19,6 +19,7 @@ public final class ChangesTest {
         abandon();
         advance();
         advanceFolds();
+        mostClients();
         failingChangesChangeNothing();
         Due.end("ChangesTest");
     }
@@ -86,6 +87,14 @@ public final class ChangesTest {
         Due.is("second copy: changed", x.changedCount(0), 0);
         Due.is("second copy: conflicts", x.commit(0), 0);
         Due.is("second copy: nothing joined", x.node(7, 3), 0);
+        x.lease(0, 1, 50, false);
+        x.addNode(0, 1, 9, true);
+        x.commit(0);
+        x.lease(0, 1, 50, false);
+        Due.is("third copy: what was added before is in the base", x.setField(0, 8, 0, 3), 0);
+        Due.is("third copy: changed", x.changedCount(0), 1);
+        Due.is("third copy: conflicts", x.commit(0), 0);
+        Due.is("third copy: field", x.field(8, 0), 3);
     }
 
     private static void renew() {
@@ -238,6 +247,19 @@ public final class ChangesTest {
         Due.is("commit: field", x.field(2, 0), 15);
         Due.is("commit: lease", x.leased(0, 0), -1);
         Due.fails("commit: twice", Due.STATE, () -> x.commit(0));
+        // What the ended lease has left behind must not count.
+        Due.fails("setField after the lease", Due.STATE, () -> x.setField(0, 2, 0, 5));
+        Due.fails("addNode after the lease", Due.STATE, () -> x.addNode(0, 1, 99, true));
+        Due.fails("removeNode after the lease", Due.STATE, () -> x.removeNode(0, 2));
+        Due.fails("copyField after the lease", Due.STATE, () -> x.copyField(0, 2, 0));
+        Due.fails("isInCopy after the lease", Due.STATE, () -> x.isInCopy(0, 2));
+        Due.fails("changedCount after the lease", Due.STATE, () -> x.changedCount(0));
+        Due.fails("preview after the lease", Due.STATE, () -> x.preview(0));
+        Due.fails("wouldBe after the lease", Due.STATE, () -> x.wouldBe(0, 2, 0));
+        Due.fails("renew after the lease", Due.STATE, () -> x.renew(0, 50));
+        Due.fails("abandon after the lease", Due.STATE, () -> x.abandon(0));
+        Due.is("blockers after the lease", x.blockers(1, 1, true), 0);
+        Due.fails("nextEnd after the lease", Due.ELEMENT, x::nextEnd);
     }
 
     private static void abandon() {
@@ -305,6 +327,22 @@ public final class ChangesTest {
         Due.is("second conflict's client", x.conflict(1, 4), 0);
         Due.is("second conflict's tick", x.conflict(1, 5), 5);
         Due.is("tick", x.tick(), 203);
+    }
+
+    private static void mostClients() {
+        LeasedTree x = Due.loaded("client;client;client;client;client;field sum;record 0 1");
+        for (int c = 0; c < 5; c++) {
+            x.lease(c, c % 2, 20 - c, false);
+            x.setField(c, 1, 0, 1 << c);
+        }
+        Due.is("five clients: blockers", x.blockers(2, 1, true), 27);
+        Due.is("five clients: nextEnd", x.nextEnd(), 16);
+        Due.is("five clients: folded", x.advance(17), 2);
+        Due.is("five clients: field", x.field(1, 0), 24);
+        Due.is("five clients: others", x.blockers(4, 0, true), 7);
+        Due.is("five clients: nextEnd later", x.nextEnd(), 18);
+        Due.is("five clients: all folded", x.advance(5), 3);
+        Due.is("five clients: sum", x.field(1, 0), 31);
     }
 
     private static void failingChangesChangeNothing() {

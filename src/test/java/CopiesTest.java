@@ -181,6 +181,8 @@ public final class CopiesTest {
     private static void isFreeChecks() {
         LeasedTree x = Due.loaded(SETUP);
         Due.fails("isFree: client", Due.INDEX, () -> x.isFree(3, 3));
+        Due.fails("isFree: client, and another", Due.INDEX, () -> x.isFree(3, 0));
+        Due.fails("isFree: client -1", Due.INDEX, () -> x.isFree(-1, 0));
         Due.fails("isFree: other", Due.INDEX, () -> x.isFree(0, 3));
         Due.fails("isFree: other -1", Due.INDEX, () -> x.isFree(0, -1));
         Due.fails("isFree: both the same", Due.ARGUMENT, () -> x.isFree(0, 0));

@@ -2,6 +2,7 @@
 public final class HistoryTest {
     public static void main(String[] args) {
         everyChangeCanBeUndone();
+        endedLeaseComesBack();
         latestEight();
         undoLeavesTheBuffer();
         saveAndRestore();
@@ -58,6 +59,40 @@ public final class HistoryTest {
         Due.is("undo resolve: list", x.conflict(0, 3), 7);
         Due.is("undo conflict", x.undo(), 5);
         Due.is("undo conflict: list", x.conflictCount(), 0);
+    }
+
+    private static void endedLeaseComesBack() {
+        LeasedTree x = start();
+        x.lease(1, 0, 9, false);
+        x.lease(0, 1, 9, false);
+        x.setField(1, 3, 0, 4);
+        x.addNode(1, 0, 9, true);
+        x.setField(0, 2, 0, 5);
+        x.commit(1);
+        x.lease(1, 2, 20, false);
+        x.setField(1, 2, 0, 6);
+        x.abandon(0);
+        x.undo();
+        x.undo();
+        x.undo();
+        Due.is("undo of a lease in place of another", x.undo(), 4);
+        Due.is("lease again: node", x.leased(1, 0), 0);
+        Due.is("lease again: end", x.leased(1, 1), 9);
+        Due.is("lease again: changed", x.changedCount(1), 1);
+        Due.is("lease again: field", x.copyField(1, 3, 0), 4);
+        Due.is("lease again: added", x.isInCopy(1, 4), true);
+        Due.is("lease again: not yet joined", x.node(4, 3), 0);
+        Due.is("lease again: merged", x.commit(1), 0);
+        Due.is("lease again: joined", x.node(4, 3), 1);
+        x.lease(1, 3, 7, true);
+        x.abandon(1);
+        x.lease(1, 2, 8, false);
+        x.undo();
+        x.undo();
+        Due.is("exclusive lease again: node", x.leased(1, 0), 3);
+        Due.is("exclusive lease again: end", x.leased(1, 1), 7);
+        Due.is("exclusive lease again", x.leased(1, 2), 1);
+        Due.is("exclusive lease again: blockers", x.blockers(0, 3, false), 2);
     }
 
     private static void latestEight() {

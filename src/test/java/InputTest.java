@@ -54,6 +54,11 @@ public final class InputTest {
         }
         Due.is("append to 599", x.append(0x20202020, 0x20202020, 0x20202020, 0x20202020, 0x00202020), 599);
         Due.fails("append to 601", Due.STATE, () -> x.append(0, 0, 0x20002000, 0, 0));
+        Due.fails("append two bytes in a", Due.STATE, () -> x.append(0x20002000, 0, 0, 0, 0));
+        Due.fails("append two bytes in b", Due.STATE, () -> x.append(0, 0x00200020, 0, 0, 0));
+        Due.fails("append two bytes in d", Due.STATE, () -> x.append(0, 0, 0, 0x20200000, 0));
+        Due.fails("append two bytes in e", Due.STATE, () -> x.append(0, 0, 0, 0, 0x00002020));
+        Due.fails("append one byte in each", Due.STATE, () -> x.append(1, 1, 1, 1, 1));
         Due.is("append nothing", x.append(0, 0, 0, 0, 0), 599);
         Due.is("append to 600", x.append(0, 0, 0, 0, 0x20), 600);
         Due.is("append nothing at 600", x.append(0, 0, 0, 0, 0), 600);
@@ -109,6 +114,9 @@ public final class InputTest {
         errorAt("client client", 7);
         errorAt("client 5", 7);
         errorAt("clients", 0);
+        errorAt("slient", 0);
+        errorAt("field tum", 6);
+        errorAt("field mix", 6);
         errorAt("Client", 0);
         errorAt("client\tclient", 6);
         errorAt("client" + (char) 233, 6);
@@ -238,6 +246,7 @@ public final class InputTest {
         x.truncate(0);
         Due.put(x, "client;field sum;record 0 5");
         Due.is("load again", x.load(), 2);
+        Due.is("load again: record", x.node(1, 2), 1);
         Due.is("load again: tick", x.tick(), 0);
         Due.is("load again: fields", x.setup(0), 1);
         Due.is("load again: clients", x.setup(1), 1);
@@ -248,5 +257,9 @@ public final class InputTest {
         Due.is("load again: undo history", x.undoCount(), 0);
         Due.fails("load again: undo", Due.STATE, x::undo);
         Due.fails("load again: saved copy", Due.STATE, x::restore);
+        Due.put(x, "client;field sum;dir 0 5;dir 1 5;record 2 5");
+        Due.is("third load", x.load(), 4);
+        Due.is("third load: directory", x.node(1, 2), 0);
+        Due.is("third load: record", x.node(3, 2), 1);
     }
 }
