@@ -210,6 +210,14 @@ public final class ChangesTest {
         Due.is("walk", x.walk(0, 59), 59);
         Due.is("walk of the middle", x.walk(30, 29), 59);
         Due.is("size", x.size(0), 60);
+        Due.is("childCount", x.childCount(58), 1);
+        Due.is("childCount of the last", x.childCount(59), 0);
+        Due.is("child", x.child(58, 0), 59);
+        Due.is("find", x.find(58, 59), 59);
+        Due.fails("find nothing", Due.ELEMENT, () -> x.find(59, 59));
+        Due.is("total", x.total(0, 0), 0);
+        Due.fails("greatest", Due.ELEMENT, () -> x.greatest(0, 0));
+        Due.is("blockers", x.blockers(0, 59, true), 2);
         x.lease(0, 1, 5, false);
         Due.is("removed", x.removeNode(0, 2), 58);
         x.commit(0);

@@ -13,6 +13,7 @@ public final class MergeTest {
         rules();
         sumLimits();
         unchangedFieldsAreNotMerged();
+        fieldsOfNeighbours();
         addedNodes();
         addedBesideRemoved();
         changedButGone();
@@ -106,6 +107,21 @@ public final class MergeTest {
         Due.is("unchanged: conflicts", x.commit(0), 0);
         Due.is("unchanged: last", x.field(1, LAST), 4);
         Due.is("unchanged: first", x.field(1, FIRST), 5);
+    }
+
+    private static void fieldsOfNeighbours() {
+        LeasedTree x = Due.loaded(RULES + "client;record 0 1;record 0 2");
+        x.lease(0, 0, 9, false);
+        for (int f = 0; f < 6; f++) {
+            x.setField(0, 1, f, f == MIN ? -7 : 10 + f);
+            x.setField(0, 2, f, f == MIN ? -8 : 20 + f);
+        }
+        Due.is("neighbours: changed", x.changedCount(0), 12);
+        Due.is("neighbours: conflicts", x.commit(0), 0);
+        for (int f = 0; f < 6; f++) {
+            Due.is("neighbours: field " + f + " of 1", x.field(1, f), f == MIN ? -7 : 10 + f);
+            Due.is("neighbours: field " + f + " of 2", x.field(2, f), f == MIN ? -8 : 20 + f);
+        }
     }
 
     private static void conflict(LeasedTree x, int index, int... parts) {
