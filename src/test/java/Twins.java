@@ -8,6 +8,7 @@ import java.util.List;
 final class Twins {
     /** An object is only used for 512 calls, so many questions are put to several pairs of twins. */
     private static final int QUESTIONS_OF_A_PAIR = 250;
+    static final Question UNDO_COUNT = LeasedTree::undoCount;
 
     private Twins() {
     }
@@ -77,7 +78,7 @@ final class Twins {
     static List<Question> questions(LeasedTree of) {
         List<Question> all = new ArrayList<>();
         all.add(LeasedTree::tick);
-        all.add(LeasedTree::undoCount);
+        all.add(UNDO_COUNT);
         all.add(LeasedTree::errorPosition);
         all.add(x -> x.append(0, 0, 0, 0, 0));
         all.add(x -> x.setup(0));
